@@ -1,0 +1,130 @@
+/** Promises 38 to 42: image, undo, tear, count, status. */
+public final class ImagesTest {
+    private static void promise38and39() {
+        PenAcres x = Lands.twoRings();
+        Check.due("nothing kept", x.undo(), Check.NONE);
+        x.smudge(3, 1);
+        x.smudge(40, 1);
+        x.years(1);
+        x.sheet(0, 64, 1);
+        x.write(0, 0, 5);
+        Check.feed(x, "dry");
+        String before = Lands.all(x);
+        Check.due("kept", x.image(), 1);
+        Check.due("nothing changes by it", before.equals(Lands.all(x)) ? 1 : 0, 1);
+        x.hand(2, 8);
+        x.set(0, 1, 1);
+        x.set(0, 2, 500);
+        x.alter(1, 1, 0, 3);
+        x.alter(1, 1, 1, 7);
+        x.stroke(1, 2, 2);
+        x.turn(0, 4);
+        x.smudge(40, 0);
+        x.smudge(41, 1);
+        x.years(7);
+        x.write(0, 0, 6);
+        Check.feed(x, " 4");
+        Check.due("how many hands", x.undo(), 2);
+        Check.due("the tape stays", x.wipe(), 5);
+        Check.feed(x, "dry");
+        Check.due("all is as it was", before.equals(Lands.all(x)) ? 1 : 0, 1);
+        Check.due("lines, too", x.inside(1), Check.set(27, 28, 29, 35, 36, 37));
+        Check.due("sheets stay", x.write(0, 0, 6), 6);
+        x.cut(0, 0);
+        x.years(1);
+        Check.due("it stays", x.undo(), 2);
+        Check.due("all is as it was again", before.equals(Lands.all(x)) ? 1 : 0, 1);
+        x.set(0, 2, 444);
+        Check.due("another one", x.image(), 1);
+        x.set(0, 2, 445);
+        x.undo();
+        Check.due("the latest", x.of(0, 2), 444);
+        Check.due("findings stay", x.status(-1), 1);
+    }
+
+    private static void emptyImage() {
+        PenAcres x = new PenAcres();
+        x.image();
+        Lands.ring(x, 9, 4, 3);
+        Check.due("no hands", x.undo(), 0);
+        Check.due("none", x.count(0), 0);
+        x.hand(0, 9);
+        Check.due("a new one has no strokes", x.of(0, 4), 0);
+        Check.due("nor cost", x.of(0, 5), 0);
+        Check.due("nor anything inside", x.inside(0), 0);
+    }
+
+    private static void promise40() {
+        PenAcres x = new PenAcres();
+        Check.due("nothing", x.tear(), 0);
+        x.image();
+        x.image();
+        Check.due("something", x.tear(), 1);
+        Check.due("nothing more", x.tear(), 0);
+        Check.due("nothing kept", x.undo(), Check.NONE);
+        x.image();
+        Check.due("kept anew", x.undo(), 0);
+    }
+
+    private static void promise41() {
+        PenAcres x = Lands.twoRings();
+        x.hand(1, 0);
+        x.stroke(2, 1, 5);
+        Check.feed(x, "abc");
+        int[] want = {3, 3, 9, 30};
+        for (int what = 0; what < 4; what++) {
+            Check.due("count(" + what + ")", x.count(what), want[what]);
+        }
+        x.set(0, 2, 0);
+        Check.due("costs of those that don't write, too", x.count(3), 30);
+        Check.due("what 4", x.count(4), Check.BEYOND);
+        Check.due("what -1", x.count(-1), Check.BEYOND);
+        for (int far : Check.FAR) {
+            Check.due("far what", x.count(far), Check.BEYOND);
+        }
+    }
+
+    private static void promise42() {
+        PenAcres x = new PenAcres();
+        for (int which = -1; which <= 6; which++) {
+            Check.due("none yet", x.status(which), 0);
+        }
+        x.cells(9);
+        x.line(0);
+        for (int i = 0; i < 7; i++) {
+            x.hand(0, 20);
+        }
+        x.as(0, 3);
+        x.dry(0);
+        x.undo();
+        x.write(0, 0, 0);
+        x.sheet(0, 8, -1);
+        x.copy(0, 0, 1, 0, 0);
+        int[] want = {2, 1, 1, 2, 0, 2, 1};
+        for (int which = 0; which < 7; which++) {
+            Check.due("status(" + which + ")", x.status(which), want[which]);
+        }
+        Check.due("all", x.status(-1), 9);
+        Check.due("another one", x.status(7), Check.BEYOND);
+        Check.due("counted from then on", x.status(0), 3);
+        Check.due("another one below", x.status(-2), Check.BEYOND);
+        Check.due("counted, too", x.status(0), 4);
+        for (int far : Check.FAR) {
+            Check.due("far which", x.status(far), Check.BEYOND);
+        }
+        Check.due("all then", x.status(-1), 11 + Check.FAR.length);
+        x.image();
+        x.status(9);
+        x.undo();
+        Check.due("undo takes none back", x.status(-1), 12 + Check.FAR.length);
+    }
+
+    public static void main(String[] args) {
+        promise38and39();
+        emptyImage();
+        promise40();
+        promise41();
+        promise42();
+        Check.end();
+    }
+}
