@@ -905,7 +905,7 @@ public final class PenAcres {
         /** All cells that writing comes to, those that are smudged too. */
         long path;
         int cost;
-        /** The line looked at last and what is inside of it: most years change no line. */
+        /** The line looked at last and what is inside of it (nothing, of none): most years change no line. */
         private long lineSeen;
         private long insideSeen;
 
@@ -1034,6 +1034,8 @@ public final class PenAcres {
         int year;
         int hands;
         private final Hand[] rows;
+        /** What is inside of each hand that writes; as stakeClaims() found it last. */
+        private final long[] claims;
         private final int[] ownedCells;
 
         Land(HandKind plain) {
@@ -1041,6 +1043,7 @@ public final class PenAcres {
             for (int h = 0; h < MOST_HANDS; h++) {
                 rows[h] = new Hand(plain);
             }
+            claims = new long[MOST_HANDS];
             ownedCells = new int[MOST_HANDS];
         }
 
@@ -1103,18 +1106,10 @@ public final class PenAcres {
             return set;
         }
 
-        int ownerOf(int cell) {
+        private void stakeClaims() {
             for (int h = 0; h < hands; h++) {
-                if (bitOf(ownedBy(h), cell) == 1) {
-                    return h;
-                }
+                claims[h] = rows[h].writes() ? rows[h].insideUnder(smudged) : 0L;
             }
-            return -1;
-        }
-
-        /** What is inside of a hand that writes; nothing for one that doesn't. */
-        private long claimOf(int h) {
-            return rows[h].writes() ? rows[h].insideUnder(smudged) : 0L;
         }
 
         private boolean goesBefore(int one, int two) {
@@ -1123,47 +1118,65 @@ public final class PenAcres {
             return inkOfOne > inkOfTwo || (inkOfOne == inkOfTwo && one < two);
         }
 
-        private long ownedBy(int h) {
-            long own = claimOf(h);
-            for (int other = 0; other < hands && own != 0; other++) {
-                if (goesBefore(other, h)) {
-                    own &= ~claimOf(other);
+        /** What a hand owns by the claims that are staked. */
+        private long shareOf(int h) {
+            long share = claims[h];
+            for (int other = 0; other < hands; other++) {
+                if ((share & claims[other]) != 0 && goesBefore(other, h)) {
+                    share &= ~claims[other];
                 }
             }
-            return own;
+            return share;
+        }
+
+        int ownerOf(int cell) {
+            stakeClaims();
+            for (int h = 0; h < hands; h++) {
+                if (bitOf(shareOf(h), cell) == 1) {
+                    return h;
+                }
+            }
+            return -1;
         }
 
         int howManyOwnedBy(int number) {
-            return handOf(number) == null ? 0 : Long.bitCount(ownedBy(number));
+            if (handOf(number) == null) {
+                return 0;
+            }
+            stakeClaims();
+            return Long.bitCount(shareOf(number));
         }
 
         long owned() {
+            stakeClaims();
             long any = 0L;
             for (int h = 0; h < hands; h++) {
-                any |= claimOf(h);
+                any |= claims[h];
             }
             return any;
         }
 
         long disputed() {
+            stakeClaims();
             long any = 0L;
             long several = 0L;
             for (int h = 0; h < hands; h++) {
-                long claim = claimOf(h);
-                several |= any & claim;
-                any |= claim;
+                several |= any & claims[h];
+                any |= claims[h];
             }
             return several;
         }
 
         void goYear() {
             // All goes by what is so as the year begins: count first, change then.
+            stakeClaims();
             for (int h = 0; h < hands; h++) {
-                ownedCells[h] = howManyOwnedBy(h);
+                ownedCells[h] = Long.bitCount(shareOf(h));
             }
             for (int h = 0; h < hands; h++) {
                 rows[h].goYear(ownedCells[h]);
             }
+            // Takes the least bit off; of none it leaves none.
             smudged &= smudged - 1;
             year++;
         }

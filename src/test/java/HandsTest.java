@@ -306,6 +306,13 @@ public final class HandsTest {
         Check.due("a corner opens nothing", x.inside(small), Check.set(19));
         x.smudge(11, 1);
         Check.due("a side does", x.inside(small), 0);
+        x.smudge(11, 0);
+        Check.due("dry again", x.inside(small), Check.set(19));
+        for (int cell : new int[] {10, 11, 12, 20, 28, 27, 26, 18}) {
+            x.smudge(cell, 1);
+        }
+        Check.due("a line that is all smudged", x.line(small), 0);
+        Check.due("has nothing inside", x.inside(small), 0);
         Check.due("hand 4", x.inside(4), Check.BEYOND);
         Check.due("hand -1", x.inside(-1), Check.BEYOND);
         for (int far : Check.FAR) {

@@ -43,9 +43,12 @@ public final class HelpTest {
         Lands.strokes(x, 0, 1, 2, 2, 2, 3, 1, 3, 1, 0, 2);
         Check.due("one is inside", x.of(0, 7), 1);
         Check.due("of several the least", x.longer(0), 1);
+        int first = x.hand(0, 8);
+        Lands.strokes(x, first, 1, 2, 2, 2, 3, 7, 0, 2);
+        Check.due("stroke 0 or 1: the least", x.longer(first), 0);
         x.smudge(34, 1);
         Check.due("the second, for the first is smudged", x.longer(0), 2);
-        Check.due("hand 1", x.longer(1), Check.BEYOND);
+        Check.due("hand 2", x.longer(2), Check.BEYOND);
         Check.due("hand -1", x.longer(-1), Check.BEYOND);
         for (int far : Check.FAR) {
             Check.due("far hand", x.longer(far), Check.BEYOND);

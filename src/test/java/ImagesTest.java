@@ -46,10 +46,13 @@ public final class ImagesTest {
         PenAcres x = new PenAcres();
         x.image();
         Lands.ring(x, 9, 4, 3);
+        Check.due("corn", x.years(1), 12);
         Check.due("no hands", x.undo(), 0);
         Check.due("none", x.count(0), 0);
         x.hand(0, 9);
-        Check.due("a new one has no strokes", x.of(0, 4), 0);
+        Check.due("a new one has 30 ink", x.of(0, 2), 30);
+        Check.due("no corn", x.of(0, 3), 0);
+        Check.due("no strokes", x.of(0, 4), 0);
         Check.due("nor cost", x.of(0, 5), 0);
         Check.due("nor anything inside", x.inside(0), 0);
     }

@@ -117,6 +117,9 @@ public final class TextTest {
         fault("hands at 4", 0);
         fault("Hand at 4", 0);
         fault("han at 4", 0);
+        fault("land at 4", 0);
+        fault("hant at 4", 0);
+        fault("smudgy 4", 0);
         fault("hand att 4", 5);
         fault("hand at x", 8);
         fault("hand at 4 ink", 13);
