@@ -5,10 +5,12 @@ public final class SheetsTest {
         Check.due("8 bits", x.sheet(0, 8, 40), 40);
         Check.due("16 bits", x.sheet(1, 16, 1), 1);
         Check.due("64 bits", x.sheet(3, 64, 0), 0);
+        x.write(0, 0, 4);
         x.write(0, 39, 5);
         Check.due("5 stands there", x.write(0, 39, 6), 5);
         Check.due("anew", x.sheet(0, 8, 40), 40);
-        Check.due("all are 0", x.write(0, 39, 7), 0);
+        Check.due("all are 0, the first", x.write(0, 0, 0), 0);
+        Check.due("all are 0, the last", x.write(0, 39, 7), 0);
         Check.due("sheet 4", x.sheet(4, 8, -1), Check.BEYOND);
         Check.due("sheet -1", x.sheet(-1, 8, 1), Check.BEYOND);
         Check.due("bits 32", x.sheet(0, 32, -1), Check.BEYOND);
@@ -85,6 +87,10 @@ public final class SheetsTest {
         hold(x, 0, 10, 10, 11, 12, 13, 14);
         Check.due("down within one", x.copy(0, 1, 0, 0, 5), 5);
         hold(x, 0, 10, 11, 12, 13, 14, 14);
+        x.sheet(3, 16, 6);
+        Check.due("a whole sheet", x.copy(0, 0, 3, 0, 6), 6);
+        hold(x, 3, 10, 11, 12, 13, 14, 14);
+        x.sheet(3, 0, 0);
         Check.due("none, from the end", x.copy(0, 6, 1, 4, 0), 0);
         Check.due("from beyond the end", x.copy(0, 7, 1, 0, 0), Check.BEYOND);
         Check.due("to beyond the end", x.copy(0, 0, 1, 5, 0), Check.BEYOND);

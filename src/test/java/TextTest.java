@@ -120,6 +120,8 @@ public final class TextTest {
         fault("land at 4", 0);
         fault("hant at 4", 0);
         fault("smudgy 4", 0);
+        fault("drya 4", 0);
+        fault("dryz 4", 0);
         fault("hand att 4", 5);
         fault("hand at x", 8);
         fault("hand at 4 ink", 13);
