@@ -64,6 +64,14 @@ public final class HandsTest {
         x.set(1, 2, 31);
         Check.due("owns all inside with most ink", x.of(1, 8), 6);
         Check.due("the other one owns less", x.of(0, 8), 4);
+        x.smudge(18, 1);
+        Check.due("a smudged corner opens nothing", x.of(1, 7), 6);
+        x.smudge(19, 1);
+        Check.due("a smudged side does", x.of(1, 7), 0);
+        Check.due("it owns nothing then", x.of(1, 8), 0);
+        Check.due("it writes all the same", x.of(1, 6), 1);
+        x.smudge(19, 0);
+        Check.due("dry again", x.of(1, 7), 6);
         int[] crops = {2, 4, 2, 3, 3, 1};
         for (int k = 0; k < 6; k++) {
             x.turn(1, k);

@@ -18,7 +18,15 @@ public final class HelpTest {
         Check.due("nothing changed", x.cells(0), 0);
         int bare = x.hand(0, 3);
         Check.due("nothing to open", x.rain(bare), Check.NONE);
-        Check.due("hand 3", x.rain(3), Check.BEYOND);
+        // Rooms 18 above 34: once 10 is open, their wall opens the room that is left.
+        int rooms = x.hand(0, 9);
+        Lands.strokes(x, rooms, 1, 2, 2, 4, 3, 2, 0, 2, 1, 2, 3, 2, 0, 2);
+        Check.due("the first room's wall", x.rain(rooms), 10);
+        x.smudge(10, 1);
+        Check.due("a room is open already", x.rain(rooms), 26);
+        x.smudge(26, 1);
+        Check.due("both are: none fewer", x.rain(rooms), Check.NONE);
+        Check.due("hand 4", x.rain(4), Check.BEYOND);
         Check.due("hand -1", x.rain(-1), Check.BEYOND);
         for (int far : Check.FAR) {
             Check.due("far hand", x.rain(far), Check.BEYOND);
@@ -84,6 +92,19 @@ public final class HelpTest {
         x.smudge(1, 0);
         Lands.strokes(x, 0, 3, 3, 0, 3, 1, 3, 2, 3);
         Check.due("leftward and up it begins below", x.begin(0), 26);
+        // From below the field it would go around it all: only a CELL will do.
+        PenAcres y = new PenAcres();
+        y.hand(0, 0);
+        Lands.strokes(y, 0, 0, 1, 1, 7, 0, 5, 3, 7, 2, 5);
+        Check.due("from the last row", y.begin(0), 40);
+        PenAcres z = new PenAcres();
+        z.hand(0, 0);
+        Lands.strokes(z, 0, 0, 2, 3, 2, 2, 2, 1, 2);
+        for (int cell = 0; cell < 48; cell++) {
+            boolean aroundTheLast = cell == 30 || cell == 37 || cell == 39 || cell == 46;
+            z.smudge(cell, aroundTheLast ? 0 : 1);
+        }
+        Check.due("the last cell that will do", z.begin(0), 47);
         Check.due("hand 1", x.begin(1), Check.BEYOND);
         Check.due("hand -1", x.begin(-1), Check.BEYOND);
         for (int far : Check.FAR) {
@@ -136,6 +157,30 @@ public final class HelpTest {
         }
     }
 
+    /** "The least INK (0 to 999) with which a HAND OWNS as many CELLS as it can by INK." */
+    private static void everyInk() {
+        for (int ink = 0; ink <= 999; ink++) {
+            PenAcres x = Lands.twoRings();
+            x.set(0, 2, ink);
+            x.set(1, 2, ink);
+            boolean writes = ink >= 14;
+            Check.due("as much as 1's " + ink, x.ink(0), writes ? ink : 14);
+            Check.due("one more than 0's " + ink, x.ink(1), !writes || ink == 999 ? 14 : ink + 1);
+        }
+        // What it has is no matter; a hand that costs nothing needs nothing.
+        PenAcres x = Lands.twoRings();
+        x.set(1, 2, 500);
+        x.set(0, 2, 999);
+        Check.due("with 999", x.ink(0), 500);
+        x.set(0, 2, 0);
+        Check.due("with 0", x.ink(0), 500);
+        x.cut(0, 0);
+        Check.due("nothing inside", x.ink(0), 0);
+        x.cut(1, 0);
+        Lands.strokes(x, 0, 1, 7, 3, 7, 1, 7, 3, 7);
+        Check.due("a cost for nothing", x.ink(0), 0);
+    }
+
     private static void promise26() {
         PenAcres x = Lands.twoRings();
         Check.due("two cells", x.court(0, 1), 2);
@@ -143,7 +188,14 @@ public final class HelpTest {
         x.set(0, 2, 0);
         Check.due("whether they write or not", x.court(0, 1), 2);
         x.smudge(10, 1);
-        Check.due("none", x.court(0, 1), 0);
+        Check.due("the first is open", x.court(0, 1), 0);
+        Check.due("either way none", x.court(1, 0), 0);
+        x.smudge(10, 0);
+        x.smudge(43, 1);
+        Check.due("the second is open", x.court(0, 1), 0);
+        Check.due("either way none, too", x.court(1, 0), 0);
+        x.smudge(43, 0);
+        Check.due("both are dry", x.court(0, 1), 2);
         Check.due("one and the same", x.court(1, 1), Check.BEYOND);
         Check.due("hand 2", x.court(2, 0), Check.BEYOND);
         Check.due("other 2", x.court(0, 2), Check.BEYOND);
@@ -205,6 +257,7 @@ public final class HelpTest {
         promise23();
         promise24();
         promise25();
+        everyInk();
         promise26();
         promise27();
         promise28();

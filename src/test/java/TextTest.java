@@ -166,6 +166,13 @@ public final class TextTest {
         fault("smudge 4{", 8);
         fault("smudge 4/", 8);
         fault("smudge 4:", 8);
+        // What begins no TOKEN ends a WORD or a NUMBER, too: the letters are a to z, the digits 0 to 9.
+        for (char c : new char[] {0, 9, 10, '/', ':', '@', 'A', 'Z', '`', '{', 127, 128, 160, 225, 255}) {
+            fault("smudge" + c + "4", 6);
+            fault("smudge 4" + c + "5", 8);
+            fault("smudge 4;" + c + "dry 4", 9);
+            fault(c + "smudge 4", 0);
+        }
         // The WORD of a 9th STROKE is the fault, not what comes behind it.
         fault("hand at 4 up1up1up1up1up1up1up1up1 up 9", 35);
         // There are two hands: four more are right, the fifth is a 7th.
