@@ -129,7 +129,11 @@ public final class PenAcres {
         if (h == null || !isWay(way) || !isLength(length)) {
             return finding(BEYOND);
         }
-        return h.addStroke(way, length) ? h.strokes : finding(FULL);
+        if (!h.addStroke(way, length)) {
+            return finding(FULL);
+        }
+        h.trace();
+        return h.strokes;
     }
 
     public int of(int hand, int what) {
@@ -473,6 +477,7 @@ public final class PenAcres {
         int items = tape.tellTo(ahead, kinds);
         tape.size = 0;
         if (items >= 0) {
+            ahead.traceHands();
             land.takeFrom(ahead);
         }
         return items;
@@ -921,7 +926,8 @@ public final class PenAcres {
             ink = FIRST_INK;
             corn = 0;
             strokes = 0;
-            trace();
+            path = Grid.bit(cell);
+            cost = 0;
         }
 
         void takeFrom(Hand other) {
@@ -942,7 +948,7 @@ public final class PenAcres {
             return i >= 0 && i < strokes && i < MOST_STROKES;
         }
 
-        /** Whether there was room for it. */
+        /** Whether there was room for it; the strokes are not traced by it. */
         boolean addStroke(int way, int length) {
             if (strokes < 0 || strokes >= MOST_STROKES) {
                 return false;
@@ -950,7 +956,6 @@ public final class PenAcres {
             ways[strokes] = way;
             lengths[strokes] = length;
             strokes++;
-            trace();
             return true;
         }
 
@@ -1074,6 +1079,12 @@ public final class PenAcres {
         /** The hand of that number, or null if there is none. */
         Hand handOf(int number) {
             return number >= 0 && number < hands && number < rows.length ? rows[number] : null;
+        }
+
+        void traceHands() {
+            for (int h = 0; h < hands; h++) {
+                rows[h].trace();
+            }
         }
 
         void makeSmudged(int cell, boolean is) {
@@ -1260,7 +1271,10 @@ public final class PenAcres {
             }
         }
 
-        /** How many items came to the land; with a fault -1 less its place, the land half told. */
+        /**
+         * How many items came to the land, whose hands are not traced yet: that would go too deep here.
+         * With a fault -1 less its place; the land is half told then.
+         */
         int tellTo(Land land, HandKind[] kinds) {
             behind = 0;
             goOn();

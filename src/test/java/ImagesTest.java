@@ -57,6 +57,96 @@ public final class ImagesTest {
         Check.due("nor anything inside", x.inside(0), 0);
     }
 
+    /** "All that section 1 tells": each of it, with as many hands and strokes as can be, after all was changed. */
+    private static void fullImage() {
+        PenAcres x = new PenAcres();
+        for (int hand = 0; hand < 6; hand++) {
+            x.hand(hand, 7 * hand);
+            for (int i = 0; i < 8; i++) {
+                x.stroke(hand, (hand + i) % 4, 1 + (hand + i) % 7);
+            }
+        }
+        x.smudge(0, 1);
+        x.smudge(47, 1);
+        x.smudge(20, 1);
+        x.years(2);
+        String before = Lands.all(x);
+        long[] inside = new long[6];
+        for (int hand = 0; hand < 6; hand++) {
+            inside[hand] = x.inside(hand);
+        }
+        Check.due("kept", x.image(), 1);
+        for (int hand = 0; hand < 6; hand++) {
+            x.turn(hand, 5 - hand);
+            x.set(hand, 1, 47 - hand);
+            x.set(hand, 2, 999 - hand);
+            x.alter(hand, 0, 0, (hand + 1) % 4);
+            x.alter(hand, 7, 1, 1 + (hand + 3) % 7);
+            x.cut(hand, hand);
+        }
+        x.smudge(5, 1);
+        x.smudge(47, 0);
+        x.years(30);
+        Check.due("six", x.undo(), 6);
+        Check.due("all as it was", before.equals(Lands.all(x)) ? 1 : 0, 1);
+        for (int hand = 0; hand < 6; hand++) {
+            Check.due("inside as it was", x.inside(hand), inside[hand]);
+        }
+        Check.due("full as it was", x.hand(0, 0), Check.FULL);
+        Check.due("its strokes, too", x.stroke(5, 0, 1), Check.FULL);
+    }
+
+    /** "(which stays)", "(undo() takes none back)", and no call but these three touches what is kept. */
+    private static void whatIsKept() {
+        PenAcres x = new PenAcres();
+        x.hand(0, 9);
+        x.image();
+        x.hand(0, 10);
+        Check.due("fault", Check.tell(x, "hand at 11; hand"), -1 - 16);
+        Check.due("text", Check.tell(x, "hand at 12"), 1);
+        x.on(0, 60, 0);
+        x.dry(0);
+        x.rich(60);
+        x.longer(0);
+        x.begin(0);
+        x.kind(0);
+        x.ink(0);
+        x.sheet(0, 8, 2);
+        x.book(0, 0);
+        x.read(0, 0);
+        x.wipe();
+        int findings = x.status(-1);
+        Check.due("findings", findings, 2);
+        Check.due("three hands", x.count(0), 3);
+        for (int i = 0; i < 3; i++) {
+            Check.due("one was kept", x.undo(), 1);
+            x.hand(0, 20 + i);
+        }
+        Check.due("findings stay", x.status(-1), findings);
+        Check.due("at 9", x.of(0, 1), 9);
+        x.image();
+        Check.due("two kept now", x.undo(), 2);
+        Check.due("torn", x.tear(), 1);
+        Check.due("what there is stays", x.count(0), 2);
+        Check.due("none", x.undo(), Check.NONE);
+        Check.due("what there is stays, too", x.count(0), 2);
+    }
+
+    /** YEAR goes back by undo(), so that years can go again. */
+    private static void yearsAgain() {
+        PenAcres x = new PenAcres();
+        x.image();
+        for (int i = 0; i < 166; i++) {
+            x.years(60);
+        }
+        x.years(39);
+        Check.due("no year more", x.years(1), Check.STATE);
+        Check.due("back", x.undo(), 0);
+        Check.due("year 0", x.now(0), 0);
+        Check.due("again", x.years(60), 0);
+        Check.due("year 60", x.now(0), 60);
+    }
+
     private static void promise40() {
         PenAcres x = new PenAcres();
         Check.due("nothing", x.tear(), 0);
@@ -125,6 +215,9 @@ public final class ImagesTest {
     public static void main(String[] args) {
         promise38and39();
         emptyImage();
+        fullImage();
+        whatIsKept();
+        yearsAgain();
         promise40();
         promise41();
         promise42();

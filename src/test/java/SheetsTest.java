@@ -181,6 +181,101 @@ public final class SheetsTest {
         hold(y, 0, 0, 48, 96, (byte) 144, (byte) 192, (byte) 240, (byte) 288);
     }
 
+    /** "CORN of a HAND ON 0, 1, 2, .. YEARS .. as many as it has numbers": as on() tells each. */
+    private static void wholeBook() {
+        PenAcres x = Lands.twoRings();
+        x.smudge(10, 1);
+        x.smudge(11, 1);
+        x.years(3);
+        x.sheet(3, 64, 40);
+        Check.due("40", x.book(3, 1), 40);
+        for (int n = 0; n < 40; n++) {
+            Check.due("number " + n, x.write(3, n, 0), x.on(1, n, 1));
+        }
+        x.sheet(3, 64, 1);
+        x.write(3, 0, 77);
+        Check.due("one", x.book(3, 0), 1);
+        Check.due("what it has", x.write(3, 0, 0), x.of(0, 3));
+        // At the last year a book can be kept all the same: nothing goes but ON.
+        PenAcres y = new PenAcres();
+        y.hand(0, 0);
+        for (int i = 0; i < 166; i++) {
+            y.years(60);
+        }
+        y.years(39);
+        y.sheet(0, 64, 40);
+        Check.due("a book in year 9999", y.book(0, 0), 40);
+        Check.due("read in year 9999", y.read(0, 0), 288);
+        Check.due("year 9999", y.now(0), 9999);
+    }
+
+    /** "(those that aren't 0 to 999, or stand for none, are left out)". */
+    private static void laysEdges() {
+        long[] numbers = {-1, 0, 1, 999, 1000, 1001};
+        for (int bits : new int[] {8, 16, 64}) {
+            PenAcres x = new PenAcres();
+            x.sheet(0, bits, 40);
+            Check.due("no hands", x.lays(0), 0);
+            for (int hand = 0; hand < 6; hand++) {
+                x.hand(0, 0);
+                x.write(0, hand, numbers[hand]);
+            }
+            int came = 0;
+            int[] inks = new int[6];
+            for (int hand = 0; hand < 6; hand++) {
+                long number = bits == 8 ? (byte) numbers[hand] : numbers[hand];
+                boolean comes = number >= 0 && number <= 999;
+                inks[hand] = comes ? (int) number : 30;
+                came += comes ? 1 : 0;
+            }
+            Check.due("came of " + bits + " bits", x.lays(0), came);
+            for (int hand = 0; hand < 6; hand++) {
+                Check.due("ink of " + hand, x.of(hand, 2), inks[hand]);
+            }
+            x.sheet(0, bits, 2);
+            x.write(0, 1, 5);
+            Check.due("two numbers", x.lays(0), 2);
+            Check.due("ink of 0 then", x.of(0, 2), 0);
+            Check.due("ink of 1 then", x.of(1, 2), 5);
+            Check.due("a hand without a number keeps its ink", x.of(2, 2), inks[2]);
+        }
+    }
+
+    /** "becomes v (its lowest bits)": around the ends of 8, 16 and 64 bits. */
+    private static void lowestBits() {
+        long[] ends = {0, 1, -1, 127, 128, 129, 255, 256, 257, -127, -128, -129, 32767, 32768, 32769, 65535, 65536,
+            65537, -32767, -32768, -32769, Integer.MAX_VALUE, Integer.MIN_VALUE, 1L << 32, Long.MAX_VALUE, Long.MIN_VALUE};
+        PenAcres x = new PenAcres();
+        x.sheet(0, 8, 1);
+        x.sheet(1, 16, 1);
+        x.sheet(2, 64, 1);
+        for (long v : ends) {
+            x.write(0, 0, v);
+            x.write(1, 0, v);
+            x.write(2, 0, v);
+            Check.due("8 bits of " + v, x.write(0, 0, 0), (byte) v);
+            Check.due("16 bits of " + v, x.write(1, 0, 0), (short) v);
+            Check.due("64 bits of " + v, x.write(2, 0, 0), v);
+        }
+    }
+
+    /** "n numbers of a sheet from one on come to another one from one on (as they all were)". */
+    private static void copyAll() {
+        for (int from = 0; from <= 6; from++) {
+            for (int to = 0; to <= 6; to++) {
+                for (int n = 0; n <= 7; n++) {
+                    PenAcres x = rows();
+                    boolean fits = from + n <= 6 && to + n <= 6;
+                    Check.due("within one " + from + " " + to + " " + n, x.copy(0, from, 0, to, n), fits ? n : Check.BEYOND);
+                    for (int i = 0; i < 6; i++) {
+                        long want = fits && i >= to && i < to + n ? 10 + from + i - to : 10 + i;
+                        Check.due("number " + i, x.write(0, i, 0), want);
+                    }
+                }
+            }
+        }
+    }
+
     private static void promise37() {
         PenAcres x = new PenAcres();
         x.hand(0, 9);
@@ -229,13 +324,53 @@ public final class SheetsTest {
         Check.due("cut", y.read(0, 0), 0);
     }
 
+    private static PenAcres among() {
+        PenAcres x = Lands.twoRings();
+        x.smudge(19, 1);
+        x.smudge(44, 1);
+        x.set(0, 2, 40);
+        return x;
+    }
+
+    /** "how many pairs of a KIND and a CELL that it is AT make it just so": each pair tried by calls. */
+    private static void readAmongOthers() {
+        for (int size = 1; size <= 5; size++) {
+            PenAcres x = among();
+            x.sheet(0, 64, size);
+            x.book(0, 1);
+            int found = 0;
+            for (int kind = 0; kind < 6; kind++) {
+                for (int cell = 0; cell < 48; cell++) {
+                    PenAcres y = among();
+                    y.turn(1, kind);
+                    y.set(1, 1, cell);
+                    boolean so = true;
+                    for (int n = 0; n < size; n++) {
+                        so &= y.on(1, n, 1) == x.on(1, n, 1);
+                    }
+                    found += so ? 1 : 0;
+                }
+            }
+            Check.due("pairs for " + size + " numbers", x.read(0, 1), found);
+            Check.due("its own pair is among them", found >= 1 ? 1 : 0, 1);
+            long last = x.write(0, size - 1, 0);
+            x.write(0, size - 1, last + 1);
+            Check.due("one more corn in the last year", x.read(0, 1), 0);
+        }
+    }
+
     public static void main(String[] args) {
         promise32();
         promise33();
         promise34();
         promise35();
         promise36();
+        lowestBits();
+        copyAll();
+        laysEdges();
+        wholeBook();
         promise37();
+        readAmongOthers();
         Check.end();
     }
 }

@@ -32,6 +32,52 @@ public final class TextTest {
         Check.due("all there", x.count(1), 120);
     }
 
+    /** "(n 1 to 4): how many it has. .. FULL": the last bytes that have room, and one more than that. */
+    private static void lastBytes() {
+        for (int n = 1; n <= 4; n++) {
+            PenAcres x = new PenAcres();
+            for (int i = 0; i < 120 - n; i++) {
+                x.feed(' ', 1);
+            }
+            Check.due("room for " + n, x.count(1), 120 - n);
+            for (int more = n + 1; more <= 4; more++) {
+                Check.due("none for " + more, x.feed(0x20202020, more), Check.FULL);
+                Check.due("none came", x.count(1), 120 - n);
+            }
+            Check.due("just " + n, x.feed(0x20202020, n), 120);
+            for (int more = 1; more <= 4; more++) {
+                Check.due("no room for " + more, x.feed(0x20202020, more), Check.FULL);
+            }
+            Check.due("full", x.count(1), 120);
+            Check.due("a text of blanks ends too early", x.field(), -1 - 120);
+            Check.due("there is room again", x.feed(0, 4), 4);
+        }
+    }
+
+    /** "the n lowest bytes of a number behind it, the highest of these first", whatever its sign. */
+    private static void lowestBytes() {
+        String text = "smudge 5;dry 5; smudge 41   ";
+        for (int n = 1; n <= 4; n++) {
+            PenAcres x = new PenAcres();
+            for (int at = 0; at < text.length(); at += n) {
+                int bytes = -1;
+                for (int i = at; i < at + n; i++) {
+                    bytes = bytes << 8 | (i < text.length() ? text.charAt(i) : ' ');
+                }
+                Check.due("by " + n, x.feed(bytes, n), at + n);
+            }
+            Check.due("read by " + n, x.field(), 3);
+            Check.due("smudged by " + n, x.cells(0), Check.set(41));
+        }
+        PenAcres x = new PenAcres();
+        x.feed(0xFF647279, 3);
+        x.feed(0x80000020, 1);
+        x.feed(0xFFFFFF33, 1);
+        Check.due("higher bytes don't come", x.field(), 1);
+        x.feed(Integer.MIN_VALUE, 4);
+        Check.due("nor do they get lost: byte 128 is none of a token", x.field(), -1);
+    }
+
     private static void promise30() {
         PenAcres x = new PenAcres();
         Check.due("none", x.wipe(), 0);
@@ -99,6 +145,91 @@ public final class TextTest {
         Check.due("the longest text", Check.tell(x,
             "dry1;dry1;dry1;dry1;dry1;dry1;dry1;dry1;dry1;dry1;dry1;dry1;"
                 + "dry1;dry1;dry1;dry1;dry1;dry1;dry1;dry1;dry1;dry1;dry1;dry1 "), 24);
+    }
+
+    /** "a NUMBER (a CELL)", "(0 to 999)", "(1 to 7)": the least, the greatest and those beside them. */
+    private static void numbers() {
+        for (int n = 0; n <= 1001; n++) {
+            PenAcres x = new PenAcres();
+            Check.due("smudge " + n, Check.tell(x, "smudge " + n), n <= 47 ? 1 : -1 - 7);
+            Check.due("smudged", x.cells(0), n <= 47 ? 1L << n : 0);
+            Check.due("dry " + n, Check.tell(x, "dry " + n), n <= 47 ? 1 : -1 - 4);
+            Check.due("dried", x.cells(0), 0);
+            Check.due("at " + n, Check.tell(x, "left at " + n), n <= 47 ? 1 : -1 - 8);
+            Check.due("hands", x.count(0), n <= 47 ? 1 : 0);
+            Check.due("is at", x.of(0, 1), n <= 47 ? n : Check.BEYOND);
+            PenAcres y = new PenAcres();
+            Check.due("ink " + n, Check.tell(y, "heir at 3 ink " + n), n <= 999 ? 1 : -1 - 14);
+            Check.due("has ink", y.of(0, 2), n <= 999 ? n : Check.BEYOND);
+            PenAcres z = new PenAcres();
+            Check.due("back " + n, Check.tell(z, "duke at 3 back " + n), n >= 1 && n <= 7 ? 1 : -1 - 15);
+            Check.due("has length", z.told(0, 0, 1), n >= 1 && n <= 7 ? n : Check.BEYOND);
+        }
+    }
+
+    /** "at most 120", "for a 7th", "up to 8 STROKES": as many as there may be in one text, and one more. */
+    private static void asManyAsCanBe() {
+        String six = "hand at 1;duke at 2;left at 3;heir at 4;miser at 5;shaky at 6";
+        PenAcres x = new PenAcres();
+        Check.due("six at once", Check.tell(x, six), 6);
+        int[] kinds = {0, 2, 5, 4, 1, 3};
+        for (int hand = 0; hand < 6; hand++) {
+            Check.due("kind", x.of(hand, 0), kinds[hand]);
+            Check.due("at", x.of(hand, 1), hand + 1);
+        }
+        String before = Lands.all(x);
+        Check.due("one more in a text of its own", Check.tell(x, "hand at 7"), -1);
+        Check.due("one more that ends too early", Check.tell(x, "hand"), -1);
+        Check.due("nothing changed", before.equals(Lands.all(x)) ? 1 : 0, 1);
+        Check.due("smudges still can", Check.tell(x, "smudge 1;dry 1"), 2);
+        PenAcres y = new PenAcres();
+        Check.due("seven at once", Check.tell(y, six + ";hand at 7"), -1 - six.length() - 1);
+        Check.due("none came", y.count(0), 0);
+        String eight = "heir at 20 up 1 right 2 down 3 back 4 up 5 right 6 down 7 back 1";
+        Check.due("eight strokes", Check.tell(y, eight), 1);
+        Check.due("all eight", y.of(0, 4), 8);
+        for (int i = 0; i < 8; i++) {
+            Check.due("way", y.told(0, i, 0), i % 4);
+            Check.due("length", y.told(0, i, 1), 1 + i % 7);
+        }
+        Check.due("nine", Check.tell(y, eight + " up 1"), -1 - eight.length() - 1);
+        Check.due("nine, too early", Check.tell(y, eight + " up"), -1 - eight.length() - 1);
+        Check.due("nine, another word", Check.tell(y, eight + " ink"), -1 - eight.length() - 1);
+        Check.due("nine, of a NUMBER", Check.tell(y, eight + " 1"), -1 - eight.length() - 1);
+        Check.due("none more", y.count(0), 1);
+        String long120 = " ".repeat(112) + "smudge 9";
+        Check.due("120 bytes", Check.tell(y, long120), 1);
+        Check.due("smudged", y.cells(0), Check.set(9));
+        Check.due("120 bytes that end too early", Check.tell(y, " ".repeat(111) + "smudge 9;"), -1 - 120);
+        Check.due("the last of 120 bytes is at fault", Check.tell(y, " ".repeat(111) + "smudge 9!"), -1 - 119);
+        Check.due("a blank at the end of 120", Check.tell(y, " ".repeat(115) + "dry 9"), 1);
+        Check.due("digits to the end", Check.tell(y, "smudge " + "0".repeat(112) + "8"), 1);
+        Check.due("8", y.cells(0), Check.set(8));
+        Check.due("nines to the end", Check.tell(y, "smudge " + "9".repeat(113)), -1 - 7);
+        Check.due("letters to the end", Check.tell(y, "smudge " + "a".repeat(113)), -1 - 7);
+    }
+
+    /** A hand told in a text is as one that was made by calls: its line, its cost, what it owns. */
+    private static void toldHandsWrite() {
+        PenAcres x = new PenAcres();
+        Check.due("three", Check.tell(x, "hand at 9 right 4 down 3 back 4 up 3; left at 13 ink 40 right 3 down 2 back 3 up 2;smudge 20"), 3);
+        PenAcres y = new PenAcres();
+        Lands.ring(y, 9, 4, 3);
+        y.hand(5, 13);
+        Lands.strokes(y, 1, 1, 3, 2, 2, 3, 3, 0, 2);
+        y.set(1, 2, 40);
+        y.smudge(20, 1);
+        for (int hand = 0; hand < 2; hand++) {
+            Check.due("line", x.line(hand), y.line(hand));
+            Check.due("inside", x.inside(hand), y.inside(hand));
+            for (int what = 0; what <= 9; what++) {
+                Check.due("of(" + hand + ", " + what + ")", x.of(hand, what), y.of(hand, what));
+            }
+        }
+        Check.due("costs", x.count(3), 28);
+        Check.due("owned", x.cells(2), y.cells(2));
+        Check.due("a year", x.years(1), y.years(1));
+        Check.due("the same", Lands.all(x).equals(Lands.all(y)) ? 1 : 0, 1);
     }
 
     private static void faults() {
@@ -182,9 +313,14 @@ public final class TextTest {
 
     public static void main(String[] args) {
         promise29();
+        lastBytes();
+        lowestBytes();
         promise30();
         promise31();
         tokens();
+        numbers();
+        asManyAsCanBe();
+        toldHandsWrite();
         faults();
         Check.end();
     }
