@@ -1132,7 +1132,7 @@ public final class PenAcres {
         /** What a hand owns by the claims that are staked. */
         private long shareOf(int h) {
             long share = claims[h];
-            for (int other = 0; other < hands; other++) {
+            for (int other = 0; other < hands && share != 0; other++) {
                 if ((share & claims[other]) != 0 && goesBefore(other, h)) {
                     share &= ~claims[other];
                 }
